@@ -554,8 +554,6 @@ public final class FireNets {
             looks = 0;
             spent = false;
             saved = NONE;
-            over = 0;
-            Arrays.fill(kept, 0);
             seek(net, 1, fire, 0, purses.money(1, 0));
         }
 

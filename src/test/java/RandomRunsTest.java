@@ -12,6 +12,7 @@ public final class RandomRunsTest {
     private final NaiveNets naive = new NaiveNets();
     private final StringBuilder told = new StringBuilder();
     private int nodes = 1;
+    private int calls;
 
     private RandomRunsTest(long seed, Due due) {
         random = new Random(seed);
@@ -21,7 +22,7 @@ public final class RandomRunsTest {
 
     public static void main(String[] args) {
         Due due = new Due("RandomRunsTest");
-        int runs = args.length > 0 ? Integer.parseInt(args[0]) : 250;
+        int runs = args.length > 0 ? Integer.parseInt(args[0]) : 160;
         for (int seed = 0; seed < runs; seed++) new RandomRunsTest(seed, due).run();
         due.close();
     }
@@ -31,7 +32,8 @@ public final class RandomRunsTest {
         for (int i = random.nextInt(16); i > 0; i--) line();
         for (int i = random.nextInt(12); i > 0; i--) node();
         for (int i = random.nextInt(9); i > 0; i--) purse();
-        for (int i = 0; i < 90; i++) call();
+        // An object answers for 512 calls; the longest of these takes a dozen.
+        while (calls < 500) call();
     }
 
     /** A number within bounds, seldom one that is odd. */
@@ -46,6 +48,7 @@ public final class RandomRunsTest {
     }
 
     private void same(String call, long got, long want) {
+        calls++;
         if (told.length() < 20000) told.append(' ').append(call).append(';');
         if (got != want) due.is(told.toString(), got, want);
         else due.is(call, got, want);
