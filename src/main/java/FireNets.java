@@ -574,7 +574,7 @@ public final class FireNets {
             return (set | ~free) + 1 & free;
         }
 
-        /** What is counted up to here from a SET that is too dear holds it, and is too dear. */
+        /** All numbers from a SET that is too dear up to this one hold it, so are too dear, too. */
         private static int lastAbove(int set) {
             return set | (set & -set) - 1;
         }
