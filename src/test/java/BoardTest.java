@@ -31,18 +31,6 @@ public final class BoardTest {
         for (int what = 0; what < 4; what++) DUE.is("board(" + what + ")", x.board(what), due[what]);
     }
 
-    /** All squares at a distance from (0, 0), at one tick. */
-    private static FireNets ring(int distance, int tick) {
-        FireNets x = new FireNets();
-        for (int k = 0; k < distance; k++) {
-            x.wall(distance - k, k, tick);
-            x.wall(-k, distance - k, tick);
-            x.wall(k - distance, -k, tick);
-            x.wall(k, k - distance, tick);
-        }
-        return x;
-    }
-
     private static void wallSquares() {
         FireNets x = new FireNets();
         DUE.is("first", x.wall(30, -30, 20), 1);
@@ -80,7 +68,7 @@ public final class BoardTest {
     }
 
     private static void razeWall() {
-        FireNets x = ring(1, 1);
+        FireNets x = Shapes.ring(1, 1);
         DUE.is("shut in", x.board(0), 1);
         DUE.is("raze", x.raze(), 4);
         DUE.is("squares", x.count(3), 0);
@@ -99,23 +87,23 @@ public final class BoardTest {
     }
 
     private static void shutInAtOnce() {
-        boards(ring(1, 1), 1, 1, 0, 0);
+        boards(Shapes.ring(1, 1), 1, 1, 0, 0);
         // One tick later all four are lost.
-        boards(ring(1, 2), NONE, 1201, 4, 24);
+        boards(Shapes.ring(1, 2), NONE, 1201, 4, 24);
     }
 
     private static void shutInLater() {
-        boards(ring(2, 1), 2, 5, 0, 1);
-        boards(ring(2, 2), 2, 5, 0, 1);
-        boards(ring(2, 3), NONE, 1201, 8, 24);
-        boards(ring(10, 10), 10, 1 + 2 * 9 * 10, 0, 9);
-        boards(ring(10, 1), 10, 181, 0, 9);
-        boards(ring(10, 11), NONE, 1201, 40, 24);
+        boards(Shapes.ring(2, 1), 2, 5, 0, 1);
+        boards(Shapes.ring(2, 2), 2, 5, 0, 1);
+        boards(Shapes.ring(2, 3), NONE, 1201, 8, 24);
+        boards(Shapes.ring(10, 10), 10, 1 + 2 * 9 * 10, 0, 9);
+        boards(Shapes.ring(10, 1), 10, 181, 0, 9);
+        boards(Shapes.ring(10, 11), NONE, 1201, 40, 24);
     }
 
     private static void shutInTooLate() {
         // A ring of ten with one square left open: fire goes out there in tick 10.
-        FireNets x = ring(10, 5);
+        FireNets x = Shapes.ring(10, 5);
         x.raze();
         for (int k = 0; k < 10; k++) {
             if (k > 0) x.wall(10 - k, k, 5);
@@ -149,7 +137,7 @@ public final class BoardTest {
     }
 
     private static void lostByThen() {
-        FireNets x = ring(2, 1);
+        FireNets x = Shapes.ring(2, 1);
         // (1, 0) burns behind tick 1 and is lost in tick 2, in which the fire is shut in.
         x.wall(1, 0, 2);
         boards(x, 2, 5, 1, 1);

@@ -30,22 +30,6 @@ public final class PlansTest {
         DUE.close();
     }
 
-    /** Nodes 0 to n - 1 in a row. */
-    private static FireNets path(int n) {
-        FireNets x = new FireNets();
-        x.net(n);
-        for (int k = 0; k + 1 < n; k++) x.line(k, k + 1);
-        return x;
-    }
-
-    /** Node 0 in the middle of all others. */
-    private static FireNets star(int n) {
-        FireNets x = new FireNets();
-        x.net(n);
-        for (int k = 1; k < n; k++) x.line(0, k);
-        return x;
-    }
-
     private static void plays(FireNets x, int fire, int... due) {
         for (int what = 0; what < due.length; what++) {
             DUE.is("play(" + fire + ", " + what + ")", x.play(fire, what), due[what]);
@@ -72,7 +56,7 @@ public final class PlansTest {
     }
 
     private static void playOfPlan() {
-        FireNets x = path(6);
+        FireNets x = Shapes.path(6);
         x.node(5, 0, 4);
         x.node(4, 1, 3);
         x.purse(2, 3);
@@ -90,7 +74,7 @@ public final class PlansTest {
     }
 
     private static void playLongerThanPlan() {
-        FireNets x = path(10);
+        FireNets x = Shapes.path(10);
         plays(x, 1, 0, 1023, 0, 10, 0);
         x.plan(8, 512);
         plays(x, 1, 1, 511, 512, 9, 1);
@@ -102,7 +86,7 @@ public final class PlansTest {
     }
 
     private static void playBad() {
-        FireNets x = path(6);
+        FireNets x = Shapes.path(6);
         x.plan(1, 4);
         x.plan(2, 4);
         // Node 2 has guards already: nothing more burns from tick 1 on in node 0's fire.
@@ -118,7 +102,7 @@ public final class PlansTest {
     }
 
     private static void playBadFor() {
-        FireNets x = path(6);
+        FireNets x = Shapes.path(6);
         x.purse(1, 20);
         x.plan(1, 64);
         plays(x, 1, NONE, 1, 0, 1, 0);
@@ -140,7 +124,7 @@ public final class PlansTest {
     }
 
     private static void playKeeping() {
-        FireNets x = path(8);
+        FireNets x = Shapes.path(8);
         x.node(4, 1, 3);
         x.plan(3, 16);
         plays(x, 1, NONE, 7, 0, 3, 0);
@@ -156,7 +140,7 @@ public final class PlansTest {
     }
 
     private static void playRefused() {
-        FireNets x = path(5);
+        FireNets x = Shapes.path(5);
         for (int fire : new int[] {0, 32, -1, LOW, HIGH}) {
             DUE.is("play of fire " + fire, x.play(fire, 0), OUTSIDE);
             DUE.is("burns of fire " + fire, x.burns(fire, 0), OUTSIDE);
@@ -166,7 +150,7 @@ public final class PlansTest {
     }
 
     private static void burnsBehindTicks() {
-        FireNets x = path(7);
+        FireNets x = Shapes.path(7);
         x.plan(3, 64);
         int[] due = {8, 28, 62, 63, 63};
         for (int tick = 0; tick <= 20; tick++) {
@@ -178,7 +162,7 @@ public final class PlansTest {
 
     private static void bestOfPath() {
         // Fire in the middle of three: guards on one side, then nothing is left to save.
-        FireNets x = path(3);
+        FireNets x = Shapes.path(3);
         // Looks: {} then {} over; {0} then {} over; {2} then {} over. Guards behind the fire do not
         // help, and {0} is the first that saves one.
         bests(x, 2, 1, 6, 0, 2, 1, 0, 0, 0, 0, 0, 0, 0);
@@ -191,7 +175,7 @@ public final class PlansTest {
     }
 
     private static void bestIsFirstOfLike() {
-        FireNets x = star(5);
+        FireNets x = Shapes.star(5);
         x.purse(1, 2);
         x.purse(2, 0);
         bests(x, 1, 2, 22, 0, 2, 6);
@@ -204,7 +188,7 @@ public final class PlansTest {
 
     private static void bestLeavesNothingBehindItsEnd() {
         // Tick 2 tries up to {3} before {1} is tried in tick 1, by which the fire is over.
-        FireNets x = path(4);
+        FireNets x = Shapes.path(4);
         DUE.is("saved", x.best(1, 0), 3);
         DUE.is("over", x.best(1, 3), 1);
         DUE.is("tick 1", x.best(1, 4), 2);
@@ -231,7 +215,7 @@ public final class PlansTest {
     }
 
     private static void bestKeeping() {
-        FireNets x = path(4);
+        FireNets x = Shapes.path(4);
         x.node(1, 1, 2);
         x.node(2, 1, 2);
         x.node(3, 1, 4);
@@ -251,7 +235,7 @@ public final class PlansTest {
     }
 
     private static void bestSpent() {
-        FireNets x = star(10);
+        FireNets x = Shapes.star(10);
         x.rule(1, 50);
         x.purse(1, 9);
         x.purse(2, 0);
@@ -274,7 +258,7 @@ public final class PlansTest {
     }
 
     private static void bestBehindTick8() {
-        FireNets x = path(10);
+        FireNets x = Shapes.path(10);
         for (int tick = 1; tick <= 8; tick++) x.purse(tick, 0);
         bests(x, 1, 0, 8, 0, 10, 0, 0, 0, 0, 0, 0, 0, 0);
         x.purse(8, 1);
@@ -285,7 +269,7 @@ public final class PlansTest {
     }
 
     private static void bestRefused() {
-        FireNets x = path(4);
+        FireNets x = Shapes.path(4);
         for (int fire : new int[] {0, 16, -1, LOW, HIGH}) {
             DUE.is("best of fire " + fire, x.best(fire, 0), OUTSIDE);
             DUE.is("take of fire " + fire, x.take(fire), OUTSIDE);
@@ -294,7 +278,7 @@ public final class PlansTest {
     }
 
     private static void takeBest() {
-        FireNets x = path(10);
+        FireNets x = Shapes.path(10);
         for (int tick = 1; tick <= 8; tick++) {
             x.plan(tick, 3);
             x.purse(tick, 0);
@@ -308,7 +292,7 @@ public final class PlansTest {
     }
 
     private static void leastPurse() {
-        FireNets x = star(5);
+        FireNets x = Shapes.star(5);
         for (int wanted = 0; wanted <= 4; wanted++) DUE.is("star " + wanted, x.least(1, wanted), wanted);
         DUE.is("more than there is", x.least(1, 5), NONE);
         DUE.is("far more", x.least(1, 90), NONE);
@@ -323,7 +307,7 @@ public final class PlansTest {
         DUE.is("purses do not matter", x.least(1, 3), 15);
         DUE.is("purses stay", x.purse(1, 7), 7);
         DUE.is("other purses stay", x.purse(2, 1), 1);
-        FireNets y = path(4);
+        FireNets y = Shapes.path(4);
         y.node(2, 1, 6);
         y.node(1, 1, 9);
         DUE.is("without keeping", y.least(1, 2), 6);
@@ -333,7 +317,7 @@ public final class PlansTest {
     }
 
     private static void leastRefused() {
-        FireNets x = path(4);
+        FireNets x = Shapes.path(4);
         DUE.is("fire 0", x.least(0, 0), OUTSIDE);
         DUE.is("fire 16", x.least(16, 0), OUTSIDE);
         DUE.is("wanted -1", x.least(1, -1), OUTSIDE);
