@@ -399,7 +399,7 @@ public final class FireNets {
         }
 
         int savedFrom(int burning) {
-            return worthOf(all() & ~burning);
+            return sumOver(worth, all() & ~burning);
         }
 
         /** NODES that burn next if nothing more is done. */

@@ -1,8 +1,12 @@
 import java.nio.file.Files;
 import java.nio.file.Path;
 import java.util.ArrayList;
+import java.util.Arrays;
 import java.util.List;
+import java.util.Map;
 import java.util.Set;
+import java.util.TreeMap;
+import java.util.TreeSet;
 import java.util.regex.Matcher;
 import java.util.regex.Pattern;
 
@@ -16,6 +20,10 @@ public final class LanguageTest {
     };
     private static final Set<String> LIBRARY = Set.of(
         "Arrays.fill", "System.arraycopy", "Integer.bitCount", "Long.bitCount", "Math.max", "Math.min", "Math.abs");
+
+    /** A method's first line: what stands before it, its name, its parameters. */
+    private static final Pattern HEAD =
+        Pattern.compile("^( {4,8})(?:[a-zA-Z][a-zA-Z\\[\\]]* )*([a-zA-Z]+)\\(([^()]*)\\) \\{$");
 
     private static final Due DUE = new Due("LanguageTest");
 
@@ -71,16 +79,49 @@ public final class LanguageTest {
         DUE.holds("no initialiser block", !found(bare, "static\\s*\\{"));
     }
 
-    /** Some sixty lines a method, seven parameters at most. */
+    /** Some sixty lines a method, seven parameters at most, and objects made by constructors alone. */
     private static void methods(String bare) {
+        Map<String, String> bodies = new TreeMap<>();
         String[] lines = bare.split("\n");
         for (int i = 0; i < lines.length; i++) {
-            Matcher head = Pattern.compile("^( {4,8})[a-zA-Z][a-zA-Z\\[\\] ]*\\(([^()]*)\\) \\{$").matcher(lines[i]);
+            Matcher head = HEAD.matcher(lines[i]);
             if (!head.matches()) continue;
             int end = i;
             while (end < lines.length && !lines[end].equals(head.group(1) + "}")) end++;
-            DUE.holds(lines[i].trim() + " is short", end - i <= 60);
-            DUE.holds(lines[i].trim() + " takes few", head.group(2).split(",").length <= 7);
+            String told = lines[i].trim();
+            String name = head.group(2);
+            String body = String.join("\n", Arrays.copyOfRange(lines, i + 1, end));
+            DUE.holds(told + " is short", end - i <= 60);
+            DUE.holds(told + " takes few", head.group(3).split(",").length <= 7);
+            boolean makes = Character.isUpperCase(name.charAt(0));
+            DUE.holds(told + " makes no object", makes || !found(body, "\\bnew\\b"));
+            // Methods of one name are looked at as one, which can only make the way deeper.
+            bodies.merge(name, body, (a, b) -> a + "\n" + b);
         }
+        DUE.holds("many methods were found", bodies.size() > 40);
+        depths(bodies);
+    }
+
+    /** Calls go at most eight deep, each method of a recursion counted once. */
+    private static void depths(Map<String, String> bodies) {
+        Map<String, Set<String>> calls = new TreeMap<>();
+        for (String name : bodies.keySet()) {
+            Set<String> called = new TreeSet<>();
+            for (String call : all(bodies.get(name), "\\b[A-Za-z]+(?=\\()")) {
+                if (bodies.containsKey(call)) called.add(call);
+            }
+            calls.put(name, called);
+        }
+        for (String name : bodies.keySet()) {
+            DUE.holds(name + " goes at most eight deep", depth(name, calls, new TreeSet<>()) <= 8);
+        }
+    }
+
+    private static int depth(String name, Map<String, Set<String>> calls, Set<String> standing) {
+        if (!standing.add(name)) return 0;
+        int most = 0;
+        for (String called : calls.get(name)) most = Math.max(most, depth(called, calls, standing));
+        standing.remove(name);
+        return most + 1;
     }
 }
